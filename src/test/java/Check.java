@@ -26,6 +26,10 @@ final class Check {
         }
     }
 
+    long asked() {
+        return asked;
+    }
+
     private void tell(String line) {
         wrong++;
         if (wrong <= MOST_PRINTED) {
