@@ -17,6 +17,7 @@ public final class MatchSuite {
     private static final int MAX_PATTERN = 12;
     private static final int MAX_JOINED = MAX_PATTERN + 1 + MAX_TEXT;
     private static final int STATES = MAX_PATTERN + 1;
+    private static final int TRANSITIONS = STATES * LETTERS;
     private static final int ENGINES = 10;
     private static final int MAX_OTHER = 3;
     /** Stands between pattern and text where they are joined; equals no letter. */
@@ -40,7 +41,7 @@ public final class MatchSuite {
     /** At a letter: the set of its places in the pattern. */
     private final int[] patternPlaces = new int[LETTERS];
     /** At state * LETTERS + letter: the state that follows. */
-    private final int[] transitions = new int[STATES * LETTERS];
+    private final int[] transitions = new int[TRANSITIONS];
     /** At a letter: the set of its places in the text. */
     private final long[] textPlaces = new long[LETTERS];
 
